@@ -1,0 +1,162 @@
+/** Promises 15 (gradient) and 16 (slope). */
+public final class GradientTest {
+    public static void main(String[] args) {
+        ofLeafAndViews();
+        ofCombines();
+        ofSpreadTensors();
+        ofFoldReshapeAndMultiply();
+        ofSharedResults();
+        ofOtherLeaves();
+        wrapsAround();
+        refusals();
+        slopesStay();
+        Check.end();
+    }
+
+    private static void ofLeafAndViews() {
+        LazyTensorTape x = new LazyTensorTape();
+        int a = Check.counted(x, 2, 2);
+        Check.due("gradient of the leaf itself", x.gradient(a, a), true);
+        Check.slopes("leaf", x, 1, 1, 1, 1);
+        Check.due("gradient of a view", x.gradient(x.slice(a, 1, 1, 4 * 8 + 4), a), true);
+        Check.slopes("elements shown several times or not", x, 0, 4, 0, 4);
+        Check.due("gradient of another view", x.gradient(x.expand(x.transpose(a, 0, 1), 0, 3), a), true);
+        Check.slopes("expanded", x, 3, 3, 3, 3);
+    }
+
+    private static void ofCombines() {
+        LazyTensorTape x = new LazyTensorTape();
+        int a = Check.counted(x, 2);
+        int b = x.leaf(1, 2, 0, 0);
+        x.put(b, 0, 10);
+        x.put(b, 1, 20);
+        x.gradient(x.combine(0, a, b), b);
+        Check.slopes("sum", x, 1, 1);
+        x.gradient(x.combine(1, a, b), a);
+        Check.slopes("difference, first", x, 1, 1);
+        x.gradient(x.combine(1, a, b), b);
+        Check.slopes("difference, second", x, -1, -1);
+        x.gradient(x.combine(2, a, b), a);
+        Check.slopes("product, first", x, 10, 20);
+        x.gradient(x.combine(2, a, b), b);
+        Check.slopes("product, second", x, 1, 2);
+        x.gradient(x.combine(2, a, a), a);
+        Check.slopes("square", x, 2, 4);
+        x.gradient(x.combine(1, a, a), a);
+        Check.slopes("difference with itself", x, 0, 0);
+    }
+
+    private static void ofSpreadTensors() {
+        LazyTensorTape x = new LazyTensorTape();
+        int row = Check.counted(x, 3);
+        int column = Check.counted(x, 2, 1);
+        int product = x.combine(2, row, column);
+        x.gradient(product, row);
+        Check.slopes("row", x, 3, 3, 3);
+        x.gradient(product, column);
+        Check.slopes("column", x, 6, 6);
+        int scalar = x.leaf(0, 0, 0, 0);
+        x.gradient(x.combine(1, product, scalar), scalar);
+        Check.slopes("scalar", x, -6);
+    }
+
+    private static void ofFoldReshapeAndMultiply() {
+        LazyTensorTape x = new LazyTensorTape();
+        int a = Check.counted(x, 2, 3);
+        int sums = x.fold(a, 0);
+        x.gradient(x.combine(2, sums, sums), a);
+        Check.slopes("squares of the sums", x, 10, 14, 18, 10, 14, 18);
+        int b = Check.counted(x, 3, 2);
+        int reshaped = x.reshape(x.transpose(a, 0, 1), Check.packed(3, 2));
+        x.gradient(x.combine(2, reshaped, b), a);
+        Check.slopes("reshaped", x, 1, 3, 5, 2, 4, 6);
+        int p = x.multiply(a, b);
+        x.gradient(p, a);
+        Check.slopes("first factor", x, 3, 7, 11, 3, 7, 11);
+        x.gradient(p, b);
+        Check.slopes("second factor", x, 5, 5, 7, 7, 9, 9);
+        x.gradient(x.combine(2, p, x.leaf(2, 2, 2, 0)), b);
+        Check.slopes("times nothing", x, 0, 0, 0, 0, 0, 0);
+    }
+
+    private static void ofSharedResults() {
+        LazyTensorTape x = new LazyTensorTape();
+        int a = Check.counted(x, 1);
+        int h = a;
+        for (int i = 0; i < 20; i++) {
+            h = x.combine(0, h, h);
+        }
+        x.gradient(h, a);
+        Check.slopes("doubled 20 times", x, 1 << 20);
+        int cube = x.combine(2, x.combine(2, a, a), a);
+        x.put(a, 0, 5);
+        x.gradient(cube, a);
+        Check.slopes("cube at the present element", x, 75);
+    }
+
+    private static void ofOtherLeaves() {
+        LazyTensorTape x = new LazyTensorTape();
+        int a = Check.counted(x, 2);
+        int b = Check.counted(x, 3);
+        int sum = x.combine(0, a, a);
+        Check.due("gradient by a leaf that is not in it", x.gradient(sum, b), true);
+        Check.slopes("all 0", x, 0, 0, 0);
+        x.drop(sum);
+        int view = x.transpose(a, 0, 0);
+        x.gradient(view, a);
+        Check.slopes("of a view that is not a leaf", x, 1, 1);
+    }
+
+    private static void wrapsAround() {
+        LazyTensorTape x = new LazyTensorTape();
+        int a = x.leaf(0, 0, 0, 0);
+        x.put(a, 0, 1 << 30);
+        int square = x.combine(2, a, a);
+        x.gradient(square, a);
+        Check.slopes("2 a", x, Integer.MIN_VALUE);
+        x.gradient(x.combine(0, square, square), a);
+        Check.slopes("4 a", x, 0);
+    }
+
+    private static void refusals() {
+        LazyTensorTape x = new LazyTensorTape();
+        int a = Check.counted(x, 2);
+        int view = x.transpose(a, 0, 0);
+        int sum = x.combine(0, a, a);
+        int reshaped = x.reshape(a, Check.packed(2));
+        x.gradient(sum, a);
+        Check.due("by a view", x.gradient(sum, view), false);
+        Check.due("by a result", x.gradient(sum, sum), false);
+        Check.due("by a reshape", x.gradient(reshaped, reshaped), false);
+        int[] none = {-1, 20, 24, Integer.MAX_VALUE, Integer.MIN_VALUE};
+        for (int h : none) {
+            Check.due("of " + h, x.gradient(h, a), false);
+            Check.due("by " + h, x.gradient(a, h), false);
+        }
+        Check.slopes("after refusals", x, 2, 2);
+        x.drop(a);
+        Check.due("by a dropped handle", x.gradient(sum, a), false);
+        Check.slopes("after the drop", x, 2, 2);
+    }
+
+    private static void slopesStay() {
+        LazyTensorTape x = new LazyTensorTape();
+        Check.due("slope before any gradient", x.slope(0), 0);
+        int a = Check.counted(x, 4);
+        int square = x.combine(2, a, a);
+        x.gradient(square, a);
+        x.put(a, 0, 100);
+        Check.slopes("as it was found", x, 2, 4, 6, 8);
+        x.drop(square);
+        x.drop(a);
+        Check.counted(x, 4, 4, 4);
+        Check.slopes("after all was dropped", x, 2, 4, 6, 8);
+        int[] far = {-1, 4, 63, 64, 4096, Integer.MAX_VALUE, Integer.MIN_VALUE};
+        for (int i : far) {
+            Check.due("slope(" + i + ")", x.slope(i), 0);
+        }
+        int scalar = x.leaf(0, 0, 0, 0);
+        x.gradient(scalar, scalar);
+        Check.slopes("of a smaller leaf", x, 1);
+    }
+}
