@@ -2,8 +2,10 @@
 public final class ExistingTest {
     public static void main(String[] args) {
         handlesAreReused();
+        everyCallMayGetHandleZero();
         dropRefusals();
         neededTensorsStay();
+        bothSourcesStay();
         viewsKeepTheirTensor();
         chainsEndTogether();
         handlesAreLimited();
@@ -27,6 +29,33 @@ public final class ExistingTest {
         Check.due("a dropped view", x.drop(1), true);
         Check.due("its handle again, as a leaf", x.leaf(0, 0, 0, 0), 1);
         Check.due("which can be assigned", x.assign(1, 0), true);
+    }
+
+    private static void everyCallMayGetHandleZero() {
+        for (int kind = 0; kind < 7; kind++) {
+            LazyTensorTape x = new LazyTensorTape();
+            int unused = Check.counted(x, 3);
+            int a = Check.counted(x, 2, 2);
+            x.drop(unused);
+            switch (kind) {
+                case 0 -> x.transpose(a, 0, 1);
+                case 1 -> x.slice(a, 0, 1, 2 * 8 + 4 - 1);
+                case 2 -> x.expand(a, 0, 2);
+                case 3 -> x.reshape(a, Check.packed(2, 2));
+                case 4 -> x.combine(2, a, a);
+                case 5 -> x.fold(a, 0);
+                default -> x.multiply(a, a);
+            }
+            switch (kind) {
+                case 0 -> Check.shows("transpose", x, 0, Check.packed(2, 2), 1, 3, 2, 4);
+                case 1 -> Check.shows("slice", x, 0, Check.packed(2, 2), 3, 4, 1, 2);
+                case 2 -> Check.shows("expand", x, 0, Check.packed(2, 2, 2), 1, 2, 3, 4, 1, 2, 3, 4);
+                case 3 -> Check.shows("reshape", x, 0, Check.packed(2, 2), 1, 2, 3, 4);
+                case 4 -> Check.shows("combine", x, 0, Check.packed(2, 2), 1, 4, 9, 16);
+                case 5 -> Check.shows("fold", x, 0, Check.packed(2), 4, 6);
+                default -> Check.shows("multiply", x, 0, Check.packed(2, 2), 7, 10, 15, 22);
+            }
+        }
     }
 
     private static void dropRefusals() {
@@ -57,6 +86,23 @@ public final class ExistingTest {
         Check.due("live when needed no more", x.live(), 2);
         x.drop(a);
         Check.due("live in the end", x.live(), 0);
+    }
+
+    private static void bothSourcesStay() {
+        for (int op = 0; op < 3; op++) {
+            LazyTensorTape x = new LazyTensorTape();
+            int a = Check.counted(x, 2, 2);
+            int b = Check.counted(x, 2, 2);
+            int c = op < 2 ? x.combine(op, a, b) : x.multiply(a, b);
+            x.drop(a);
+            x.drop(b);
+            Check.due("live with both sources", x.live(), 12);
+            Check.due("a new leaf", x.leaf(2, 2, 2, 0), 0);
+            Check.due("live with a new leaf", x.live(), 16);
+            Check.due("element 1", x.at(c, 1), op == 0 ? 4 : op == 1 ? 0 : 10);
+            x.drop(c);
+            Check.due("live without", x.live(), 4);
+        }
     }
 
     private static void viewsKeepTheirTensor() {

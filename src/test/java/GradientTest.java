@@ -7,6 +7,7 @@ public final class GradientTest {
         ofFoldReshapeAndMultiply();
         ofSharedResults();
         ofOtherLeaves();
+        ofTheGreatestTensors();
         wrapsAround();
         refusals();
         slopesStay();
@@ -105,6 +106,24 @@ public final class GradientTest {
         int view = x.transpose(a, 0, 0);
         x.gradient(view, a);
         Check.slopes("of a view that is not a leaf", x, 1, 1);
+    }
+
+    private static void ofTheGreatestTensors() {
+        LazyTensorTape x = new LazyTensorTape();
+        int a = Check.counted(x, 4, 4, 4);
+        int b = Check.counted(x, 4, 4, 4);
+        int product = x.combine(2, a, x.transpose(b, 0, 2));
+        int difference = x.combine(1, product, a);
+        Check.due("accepted", x.gradient(difference, a), true);
+        for (int i = 0; i < 64; i++) {
+            int exchanged = (i % 4) * 16 + (i / 4 % 4) * 4 + i / 16;
+            Check.due("slope " + i, x.slope(i), exchanged);
+        }
+        Check.due("slope 64", x.slope(64), 0);
+        int m = Check.counted(x, 4, 4);
+        int p = x.multiply(m, m);
+        x.gradient(p, m);
+        Check.slopes("square of a matrix", x, 38, 54, 70, 86, 38 + 4, 58, 74, 90, 46, 62, 78, 94, 50, 66, 82, 98);
     }
 
     private static void wrapsAround() {

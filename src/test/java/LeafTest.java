@@ -7,6 +7,7 @@ public final class LeafTest {
         leafShapes();
         leafRefusals();
         leafIsZeroInReusedRoom();
+        newLeafLeavesOthersAlone();
         putOnLeaf();
         putOnViews();
         putRefusals();
@@ -67,6 +68,24 @@ public final class LeafTest {
         for (int i = 0; i < 64; i++) {
             Check.due("new leaf, element " + i, x.at(0, i), 0);
         }
+    }
+
+    private static void newLeafLeavesOthersAlone() {
+        LazyTensorTape x = new LazyTensorTape();
+        Check.counted(x, 4, 4, 4);
+        Check.counted(x, 4, 4, 4);
+        Check.counted(x, 4, 4, 4);
+        x.drop(1);
+        x.leaf(3, 4, 4, 4);
+        Check.due("last element before", x.at(0, 63), 64);
+        Check.due("first element behind", x.at(2, 0), 1);
+        Check.due("assign all 64", x.assign(1, 0), true);
+        Check.due("first of them", x.at(1, 0), 1);
+        Check.due("last of them", x.at(1, 63), 64);
+        x.put(0, 63, 5);
+        Check.due("assign all 64 again", x.assign(1, 0), true);
+        Check.due("last element before", x.at(0, 63), 5);
+        Check.due("first element behind", x.at(2, 0), 1);
     }
 
     private static void putOnLeaf() {
