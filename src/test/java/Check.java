@@ -58,6 +58,20 @@ final class Check {
         return packed;
     }
 
+    /** The number of elements of a packed shape. */
+    static int size(int shape) {
+        int size = 1;
+        for (int axis = 0; axis < shape % 8; axis++) {
+            size *= shape >> (3 + 3 * axis) & 7;
+        }
+        return size;
+    }
+
+    /** The code of slice for that count and step. */
+    static int code(int count, int step) {
+        return count * 8 + step + 4;
+    }
+
     static void end() {
         System.out.println(wrong == 0 ? "all answers are as due" : wrong + " answers are not as due");
         if (wrong != 0) {

