@@ -12,6 +12,7 @@ public final class ElementEdgeTest {
         putOfTheLeastAndTheGreatest();
         putSetsTheElementThatIsShownThere();
         assignToNoLeaf();
+        assignToALeafWhereAViewWas();
         assignFromNoHandle();
         assignOfOtherShapes();
         assignOfTheLeastAndTheGreatest();
@@ -156,6 +157,15 @@ public final class ElementEdgeTest {
                 assignRefusal(h, h);
             }
         }
+    }
+
+    /** Promise 12: "h is no leaf" is said of what its handle is now, not of what it was before. */
+    private static void assignToALeafWhereAViewWas() {
+        LazyTensorTape x = Scene.make();
+        x.drop(Scene.TURNED);
+        Check.due("a leaf under the handle of a view", x.leaf(0, 0, 0, 0), Scene.TURNED);
+        Check.due("assign to it", x.assign(Scene.TURNED, Scene.SCALAR), true);
+        Check.shows("what it shows", x, Scene.TURNED, 0, 7);
     }
 
     /** Promise 12: "false, changing nothing, if .. k no handle" */

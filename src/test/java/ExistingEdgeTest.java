@@ -8,6 +8,7 @@ public final class ExistingEdgeTest {
         liveOfNothing();
         liveCountsEachOnce();
         liveCountsWhatIsNeeded();
+        liveCountsNothingThatWasNeededBefore();
         liveOfTheMost();
         Check.end();
     }
@@ -127,6 +128,31 @@ public final class ExistingEdgeTest {
         keeps("transpose", 4, x -> x.transpose(0, 0, 1));
         keeps("slice", 4, x -> x.slice(0, 0, 0, Check.code(1, 0)));
         keeps("expand", 4, x -> x.expand(0, 0, 4));
+    }
+
+    /** Promise 17: what an earlier tensor in the same room was made from is not needed by the present one. */
+    private static void liveCountsNothingThatWasNeededBefore() {
+        needs("leaf", 4, x -> x.leaf(1, 4, 0, 0));
+        needs("reshape", 8, x -> x.reshape(0, Check.packed(4)));
+        needs("fold", 6, x -> x.fold(0, 0));
+        needs("combine with itself", 8, x -> x.combine(1, 0, 0));
+        needs("multiply by itself", 8, x -> x.multiply(0, 0));
+    }
+
+    private static void needs(String what, int live, Twins.MakingCall call) {
+        LazyTensorTape x = new LazyTensorTape();
+        x.leaf(2, 2, 2, 0);
+        x.leaf(2, 2, 2, 0);
+        x.leaf(2, 2, 2, 0);
+        x.drop(x.multiply(1, 2));
+        x.drop(x.combine(0, 2, 1));
+        int made = call.on(x);
+        x.drop(2);
+        x.drop(1);
+        x.drop(0);
+        Check.due("live with a " + what + " where a result of others was", x.live(), live);
+        x.drop(made);
+        Check.due("live without it", x.live(), 0);
     }
 
     private static void keeps(String what, int live, Twins.MakingCall call) {

@@ -2,7 +2,6 @@
 public final class ExistingTest {
     public static void main(String[] args) {
         handlesAreReused();
-        everyCallMayGetHandleZero();
         neededTensorsStay();
         bothSourcesStay();
         viewsKeepTheirTensor();
@@ -24,33 +23,6 @@ public final class ExistingTest {
         Check.due("a dropped view", x.drop(1), true);
         Check.due("its handle again, as a leaf", x.leaf(0, 0, 0, 0), 1);
         Check.due("which can be assigned", x.assign(1, 0), true);
-    }
-
-    private static void everyCallMayGetHandleZero() {
-        for (int kind = 0; kind < 7; kind++) {
-            LazyTensorTape x = new LazyTensorTape();
-            int unused = Check.counted(x, 3);
-            int a = Check.counted(x, 2, 2);
-            x.drop(unused);
-            switch (kind) {
-                case 0 -> x.transpose(a, 0, 1);
-                case 1 -> x.slice(a, 0, 1, Check.code(2, -1));
-                case 2 -> x.expand(a, 0, 2);
-                case 3 -> x.reshape(a, Check.packed(2, 2));
-                case 4 -> x.combine(2, a, a);
-                case 5 -> x.fold(a, 0);
-                default -> x.multiply(a, a);
-            }
-            switch (kind) {
-                case 0 -> Check.shows("transpose", x, 0, Check.packed(2, 2), 1, 3, 2, 4);
-                case 1 -> Check.shows("slice", x, 0, Check.packed(2, 2), 3, 4, 1, 2);
-                case 2 -> Check.shows("expand", x, 0, Check.packed(2, 2, 2), 1, 2, 3, 4, 1, 2, 3, 4);
-                case 3 -> Check.shows("reshape", x, 0, Check.packed(2, 2), 1, 2, 3, 4);
-                case 4 -> Check.shows("combine", x, 0, Check.packed(2, 2), 1, 4, 9, 16);
-                case 5 -> Check.shows("fold", x, 0, Check.packed(2), 4, 6);
-                default -> Check.shows("multiply", x, 0, Check.packed(2, 2), 7, 10, 15, 22);
-            }
-        }
     }
 
     private static void neededTensorsStay() {

@@ -7,6 +7,7 @@ public final class GradientEdgeTest {
     public static void main(String[] args) {
         gradientOfNoHandle();
         gradientByNoLeaf();
+        gradientByALeafWhereAViewWas();
         gradientOfEveryKind();
         gradientOfWhatDoesNotDependOnTheLeaf();
         gradientAtThePresentElements();
@@ -62,6 +63,15 @@ public final class GradientEdgeTest {
             x -> x.gradient(Scene.SUMS, Scene.LEAF));
         Twins.refuseToSet("gradient by a view of such a leaf", leafWithoutHandle,
             x -> x.gradient(Scene.SUMS, Scene.TURNED));
+    }
+
+    /** Promise 15: "k is no leaf" is said of what its handle is now, not of what it was before. */
+    private static void gradientByALeafWhereAViewWas() {
+        LazyTensorTape x = Scene.make();
+        x.drop(Scene.TURNED);
+        Check.due("a leaf under the handle of a view", x.leaf(0, 0, 0, 0), Scene.TURNED);
+        Check.due("gradient by it", x.gradient(Scene.TURNED, Scene.TURNED), true);
+        Check.slopes("by it", x, 1);
     }
 
     /** Promise 15: "tensor h" may be of any kind, "with respect to every element of leaf k". */

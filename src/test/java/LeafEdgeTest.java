@@ -143,7 +143,7 @@ public final class LeafEdgeTest {
         int used = Check.counted(x, 4, 4, 4);
         Check.counted(x, 3);
         x.drop(used);
-        Check.due("the same handle", x.leaf(3, 4, 4, 4), used);
+        Check.due("the same handle again", x.leaf(3, 4, 4, 4), used);
         for (int i = 0; i < 64; i++) {
             Check.due("element " + i + " after a leaf", x.at(used, i), 0);
         }
@@ -155,5 +155,8 @@ public final class LeafEdgeTest {
         Check.shows("after a result", x, used, Check.packed(4), 0, 0, 0, 0);
         Check.shows("the leaf before", x, 0, Check.packed(3), 1, 2, 3);
         Check.shows("the leaf behind", x, 2, Check.packed(3), 1, 2, 3);
+        x.drop(0);
+        Check.due("handle 0 again", x.leaf(1, 3, 0, 0), 0);
+        Check.shows("at handle 0", x, 0, Check.packed(3), 0, 0, 0);
     }
 }

@@ -325,6 +325,9 @@ public final class ResultEdgeTest {
         Check.shows("the first of one", x, x.fold(thin, 0), Check.packed(2, 1), 1, 2);
         Check.shows("the last of one", x, x.fold(thin, 2), Check.packed(1, 2), 1, 2);
         Check.shows("four", x, x.fold(Check.counted(x, 4), 0), 0, 10);
+        int wide = Check.counted(x, 1, 4);
+        Check.shows("one of 1 x 4", x, x.fold(wide, 0), Check.packed(4), 1, 2, 3, 4);
+        Check.shows("four of 1 x 4", x, x.fold(wide, 1), Check.packed(1), 10);
         int great = Check.counted(x, 4, 4, 4);
         int first = x.fold(great, 0);
         int last = x.fold(great, 2);

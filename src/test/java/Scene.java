@@ -8,18 +8,18 @@ final class Scene {
     static final int TURNED = 2;
     /** No handle any more; its 2 x 2 result is still needed. The next handle to be given. */
     static final int FREE = 3;
-    /** A result of rank 1 with 2 elements. */
-    static final int SUMS = 4;
-    /** A 2 x 2 x 2 leaf with the elements 1 .. 8. */
-    static final int DEEP = 5;
-    /** A 2 x 2 x 1 view of DEEP. */
-    static final int SLICED = 6;
-    /** A 3 x 2 result. */
-    static final int RESHAPED = 7;
-    /** A leaf of rank 1 with the elements 1, 2, 3. */
-    static final int ROW = 8;
     /** A 2 x 2 view of SUMS. */
-    static final int SPREAD = 9;
+    static final int SPREAD = 4;
+    /** A result of rank 1 with 2 elements. */
+    static final int SUMS = 5;
+    /** A 2 x 2 x 2 leaf with the elements 1 .. 8. */
+    static final int DEEP = 6;
+    /** A 2 x 2 x 1 view of DEEP. */
+    static final int SLICED = 7;
+    /** A 3 x 2 result. */
+    static final int RESHAPED = 8;
+    /** A leaf of rank 1 with the elements 1, 2, 3. */
+    static final int ROW = 9;
 
     static final int[] ALL = {LEAF, SCALAR, TURNED, SUMS, DEEP, SLICED, RESHAPED, ROW, SPREAD};
     static final int[] LEAVES = {LEAF, SCALAR, DEEP, ROW};
@@ -40,11 +40,14 @@ final class Scene {
         x.put(SCALAR, 0, 7);
         Check.due("turned", x.transpose(LEAF, 0, 1), TURNED);
         Check.due("product", x.multiply(LEAF, TURNED), FREE);
+        // A tensor that is gone in the end: a new one may get its room, between those of two results.
+        int gone = x.leaf(3, 4, 4, 4);
         Check.due("sums", x.fold(FREE, 0), SUMS);
         Check.due("deep", Check.counted(x, 2, 2, 2), DEEP);
         Check.due("sliced", x.slice(DEEP, 2, 1, Check.code(1, 0)), SLICED);
         Check.due("reshaped", x.reshape(LEAF, Check.packed(3, 2)), RESHAPED);
         Check.due("row", Check.counted(x, 3), ROW);
+        Check.due("drop", x.drop(gone), true);
         Check.due("spread", x.expand(SUMS, 0, 2), SPREAD);
         Check.due("gradient", x.gradient(SUMS, LEAF), true);
         Check.due("drop", x.drop(FREE), true);

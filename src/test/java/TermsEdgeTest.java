@@ -12,7 +12,9 @@ public final class TermsEdgeTest {
         lastIndexRunsFastest();
         handlesAreZeroTo23();
         lowestFreeHandleIsGiven();
+        everyCallMayGetHandleZero();
         refusedCallsAnswerMinusOne();
+        madeTensorsLeaveTheOthersAlone();
         viewsShowOneWithItsOwnElementsInTheEnd();
         viewsHaveNoElementsOfTheirOwn();
         resultsAreNotComputedOnceForAll();
@@ -153,11 +155,28 @@ public final class TermsEdgeTest {
             Check.due(MAKING[call] + ", the last", make(x, call), 23);
             Check.due(MAKING[call] + ", none", make(x, call), -1);
         }
+    }
+
+    /** "Handles are numbers 0..23": 0 is a handle as good as any for a tensor made from another one. */
+    private static void everyCallMayGetHandleZero() {
+        atHandleZero("leaf", x -> x.leaf(2, 2, 2, 0), 0, 0, 0, 0);
+        atHandleZero("transpose", x -> x.transpose(1, 0, 1), 1, 3, 2, 4);
+        atHandleZero("slice", x -> x.slice(1, 0, 1, Check.code(2, -1)), 3, 4, 1, 2);
+        atHandleZero("expand", x -> x.expand(1, 2, 2), 1, 1, 2, 2, 3, 3, 4, 4);
+        atHandleZero("reshape", x -> x.reshape(1, Check.packed(4)), 1, 2, 3, 4);
+        atHandleZero("combine", x -> x.combine(2, 1, 1), 1, 4, 9, 16);
+        atHandleZero("fold", x -> x.fold(1, 0), 4, 6);
+        atHandleZero("multiply", x -> x.multiply(1, 1), 7, 10, 15, 22);
+    }
+
+    private static void atHandleZero(String what, Twins.MakingCall call, int... elements) {
         LazyTensorTape x = new LazyTensorTape();
-        x.leaf(0, 0, 0, 0);
-        x.leaf(0, 0, 0, 0);
+        Check.counted(x, 3);
+        Check.counted(x, 2, 2);
         x.drop(0);
-        Check.due("handle 0 again", x.expand(1, 0, 2), 0);
+        Check.due(what + " at handle 0", call.on(x), 0);
+        Check.shows(what + " at handle 0", x, 0, x.shape(0), elements);
+        Check.shows("what it was made from", x, 1, Check.packed(2, 2), 1, 2, 3, 4);
     }
 
     /** "The calls that make a handle answer it, or -1 and change nothing if they refuse": all eight. */
@@ -170,6 +189,28 @@ public final class TermsEdgeTest {
         Twins.refuseToMake("combine", Scene::set, x -> x.combine(0, Scene.LEAF, Scene.TURNED));
         Twins.refuseToMake("fold", Scene::set, x -> x.fold(Scene.LEAF, 2));
         Twins.refuseToMake("multiply", Scene::set, x -> x.multiply(Scene.LEAF, Scene.LEAF));
+    }
+
+    /** A call that makes a handle does no more than that: when it is dropped, all is as it was. */
+    private static void madeTensorsLeaveTheOthersAlone() {
+        for (int h : Scene.ALL) {
+            Twins.makeAndDrop("combine with " + h, Scene::set, x -> x.combine(1, h, Scene.SCALAR));
+            Twins.makeAndDrop("combine to " + h, Scene::set, x -> x.combine(2, Scene.SCALAR, h));
+        }
+        Twins.makeAndDrop("great leaf", Scene::set, x -> x.leaf(3, 4, 4, 4));
+        Twins.makeAndDrop("small leaf", Scene::set, x -> x.leaf(0, 0, 0, 0));
+        for (int h : new int[] {Scene.LEAF, Scene.TURNED, Scene.DEEP, Scene.SLICED, Scene.RESHAPED, Scene.SPREAD}) {
+            Twins.makeAndDrop("transpose of " + h, Scene::set, x -> x.transpose(h, 0, 1));
+            Twins.makeAndDrop("slice of " + h, Scene::set, x -> x.slice(h, 1, 0, Check.code(2, 0)));
+            Twins.makeAndDrop("fold of " + h, Scene::set, x -> x.fold(h, 1));
+        }
+        for (int h : new int[] {Scene.LEAF, Scene.TURNED, Scene.RESHAPED, Scene.SPREAD, Scene.ROW, Scene.SCALAR}) {
+            Twins.makeAndDrop("expand of " + h, Scene::set, x -> x.expand(h, 0, 3));
+            Twins.makeAndDrop("reshape of " + h, Scene::set, x -> x.reshape(h, x.shape(h)));
+        }
+        Twins.makeAndDrop("multiply", Scene::set, x -> x.multiply(Scene.TURNED, Scene.LEAF));
+        Twins.makeAndDrop("multiply", Scene::set, x -> x.multiply(Scene.SPREAD, Scene.SPREAD));
+        Twins.makeAndDrop("combine to rank 3", Scene::set, x -> x.combine(0, Scene.DEEP, Scene.DEEP));
     }
 
     /** "a VIEW .. which shows elements of another tensor and in the end of one that has its own" */

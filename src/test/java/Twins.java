@@ -1,6 +1,7 @@
 /**
  * A refused call "changes nothing": an object that got it, and a twin that did not, answer all later calls alike.
- * Both stay below the 512 calls after which answers are free.
+ * The same holds of a call that made a tensor and the drop of it. Both stay below the 512 calls after which answers
+ * are free.
  */
 final class Twins {
     interface Scene {
@@ -19,21 +20,29 @@ final class Twins {
     private final LazyTensorTape x = new LazyTensorTape();
     private final LazyTensorTape twin = new LazyTensorTape();
 
-    private Twins(String what, Scene scene) {
+    private Twins(Scene scene, String what) {
         this.what = what;
         scene.set(x);
         scene.set(twin);
     }
 
     static void refuseToMake(String what, Scene scene, MakingCall call) {
-        Twins twins = new Twins(what, scene);
+        Twins twins = new Twins(scene, what + " is refused, but changes a later answer: ");
         Check.due(what, call.on(twins.x), -1);
         twins.stayAlike();
     }
 
     static void refuseToSet(String what, Scene scene, SettingCall call) {
-        Twins twins = new Twins(what, scene);
+        Twins twins = new Twins(scene, what + " is refused, but changes a later answer: ");
         Check.due(what, call.on(twins.x), false);
+        twins.stayAlike();
+    }
+
+    static void makeAndDrop(String what, Scene scene, MakingCall call) {
+        Twins twins = new Twins(scene, what + " is made and dropped, but changes a later answer: ");
+        int made = call.on(twins.x);
+        Check.due(what + " is made", made >= 0, true);
+        Check.due("its drop", twins.x.drop(made), true);
         twins.stayAlike();
     }
 
@@ -83,6 +92,6 @@ final class Twins {
     }
 
     private void alike(String later, int got, int want) {
-        Check.due(what + " is refused, but changes a later answer: " + later, got, want);
+        Check.due(what + later, got, want);
     }
 }

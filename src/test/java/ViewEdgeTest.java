@@ -128,8 +128,11 @@ public final class ViewEdgeTest {
         int[] outside = {0, 1, 4, 7, 40, 44, 47, -1, -4, -8, -12, 64 + 12, 4096 + 12, Integer.MIN_VALUE + 12,
             Integer.MAX_VALUE, Integer.MIN_VALUE};
         for (int code : outside) {
-            sliceRefusal(Scene.ROW, 0, 0, code);
-            sliceRefusal(Scene.ROW, 0, 2, code);
+            for (int from = 0; from < 4; from++) {
+                int f = from;
+                Twins.refuseToMake("slice of 4 from " + from + " with code " + code, y -> Check.counted(y, 4),
+                    y -> y.slice(0, 0, f, code));
+            }
         }
         // Codes 38 and 39 are not outside, but four positions with step 2 or 3 are never all in a dimension.
         for (int from = 0; from < 3; from++) {
