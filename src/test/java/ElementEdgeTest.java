@@ -259,6 +259,7 @@ public final class ElementEdgeTest {
         LazyTensorTape x = Scene.make();
         for (int h : Scene.NO_HANDLES) {
             Check.due("shape(" + h + ")", x.shape(h), -1);
+            Twins.refuse("shape(" + h + ")", Scene::set, y -> y.shape(h), -1);
         }
         for (int h : Scene.ALL) {
             x.drop(h);
@@ -291,6 +292,7 @@ public final class ElementEdgeTest {
         for (int h : Scene.NO_HANDLES) {
             Check.due("at(" + h + ", 0)", x.at(h, 0), 0);
             Check.due("at(" + h + ", 1)", x.at(h, 1), 0);
+            Twins.refuse("at(" + h + ", 0)", Scene::set, y -> y.at(h, 0), 0);
         }
         for (int h : Scene.ALL) {
             x.drop(h);
@@ -309,7 +311,7 @@ public final class ElementEdgeTest {
             Check.due("beyond the last of " + h, x.at(h, size), 0);
             Check.due("before the first of " + h, x.at(h, -1), 0);
             for (int i : FAR) {
-                Check.due("element " + i + " of " + h, x.at(h, i), 0);
+                Twins.refuse("element " + i + " of " + h, Scene::set, y -> y.at(h, i), 0);
             }
         }
     }

@@ -4,6 +4,7 @@ public final class ExistingEdgeTest {
         dropOfNoHandle();
         dropOfEachHandle();
         dropGivesTheHandleUpAlone();
+        dropOfTheOnlyHandle();
         dropOfTheFirstAndTheLast();
         liveOfNothing();
         liveCountsEachOnce();
@@ -63,6 +64,14 @@ public final class ExistingEdgeTest {
             }
             Check.due("slope without " + h, x.slope(0), before.slope(0));
         }
+    }
+
+    /** Promise 10: the only handle: afterwards nothing exists, as in a new object. */
+    private static void dropOfTheOnlyHandle() {
+        Twins.Scene nothing = x -> { };
+        Twins.makeAndDrop("a small leaf", nothing, x -> x.leaf(0, 0, 0, 0));
+        Twins.makeAndDrop("a great leaf", nothing, x -> x.leaf(3, 4, 4, 4));
+        Twins.makeAndDrop("a leaf that is set", nothing, x -> Check.counted(x, 3));
     }
 
     /** Promise 10: handles 0 and 23. */

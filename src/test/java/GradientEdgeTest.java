@@ -261,6 +261,7 @@ public final class GradientEdgeTest {
             }
             for (int i : FAR) {
                 Check.due("slope " + i, x.slope(i), 0);
+                Twins.refuse("slope " + i, Scene::set, y -> y.slope(i), 0);
             }
         }
     }

@@ -173,8 +173,10 @@ public final class TermsEdgeTest {
         LazyTensorTape x = new LazyTensorTape();
         Check.counted(x, 3);
         Check.counted(x, 2, 2);
+        Check.counted(x, 1);
         x.drop(0);
         Check.due(what + " at handle 0", call.on(x), 0);
+        x.put(2, 0, 9);
         Check.shows(what + " at handle 0", x, 0, x.shape(0), elements);
         Check.shows("what it was made from", x, 1, Check.packed(2, 2), 1, 2, 3, 4);
     }

@@ -8,6 +8,7 @@ final class Twins {
         void set(LazyTensorTape x);
     }
 
+    /** A call that answers a number: mostly one that makes a handle. */
     interface MakingCall {
         int on(LazyTensorTape x);
     }
@@ -27,15 +28,18 @@ final class Twins {
     }
 
     static void refuseToMake(String what, Scene scene, MakingCall call) {
+        refuse(what, scene, call, -1);
+    }
+
+    /** A call whose answer is a number, this one if it is refused. */
+    static void refuse(String what, Scene scene, MakingCall call, int answer) {
         Twins twins = new Twins(scene, what + " is refused, but changes a later answer: ");
-        Check.due(what, call.on(twins.x), -1);
+        Check.due(what, call.on(twins.x), answer);
         twins.stayAlike();
     }
 
     static void refuseToSet(String what, Scene scene, SettingCall call) {
-        Twins twins = new Twins(scene, what + " is refused, but changes a later answer: ");
-        Check.due(what, call.on(twins.x), false);
-        twins.stayAlike();
+        refuse(what, scene, x -> call.on(x) ? 1 : 0, 0);
     }
 
     static void makeAndDrop(String what, Scene scene, MakingCall call) {
