@@ -55,7 +55,8 @@ public final class LanguageTest {
     public static void main(String[] args) throws Exception {
         var compiler = ToolProvider.getSystemJavaCompiler();
         try (StandardJavaFileManager files = compiler.getStandardFileManager(null, null, null)) {
-            JavacTask task = (JavacTask) compiler.getTask(null, files, null, null, null, files.getJavaFileObjects(SOURCE));
+            var sources = files.getJavaFileObjects(SOURCE);
+            JavacTask task = (JavacTask) compiler.getTask(null, files, null, null, null, sources);
             CompilationUnitTree file = task.parse().iterator().next();
             LanguageTest test = new LanguageTest(file, Trees.instance(task).getSourcePositions());
             test.oneClass();
@@ -114,9 +115,8 @@ public final class LanguageTest {
 
     private void typeIsPlain(Tree named) {
         Tree held = named instanceof ArrayTypeTree array ? array.getType() : named;
-        boolean plain = held instanceof PrimitiveTypeTree primitive && primitive.getPrimitiveTypeKind() != TypeKind.FLOAT
-            && primitive.getPrimitiveTypeKind() != TypeKind.DOUBLE;
-        if (!plain) {
+        TypeKind kind = held instanceof PrimitiveTypeTree primitive ? primitive.getPrimitiveTypeKind() : TypeKind.OTHER;
+        if (kind == TypeKind.OTHER || kind == TypeKind.FLOAT || kind == TypeKind.DOUBLE) {
             wrong("rule 2: the type " + named, named);
         }
     }
@@ -151,8 +151,9 @@ public final class LanguageTest {
                 Check.due("two methods named " + name, callsOf.put(name, new TreeSet<>()) == null, true);
                 long first = line(positions.getStartPosition(file, method));
                 long last = line(positions.getEndPosition(file, method));
+                int parameters = method.getParameters().size();
                 Check.due("rule 10: " + name + " has at most sixty lines", last - first < 60, true);
-                Check.due("rule 10: " + name + " has at most seven parameters", method.getParameters().size() <= 7, true);
+                Check.due("rule 10: " + name + " has at most seven parameters", parameters <= 7, true);
                 body(name, method);
             }
         }
